@@ -9,6 +9,7 @@ public final class MakeTest {
         constantsAlone();
         wrongKinds();
         mapsThatAreNoSwaps();
+        oneBehindTheOther();
         largest();
         Due.end();
     }
@@ -125,6 +126,20 @@ public final class MakeTest {
             x.width(n);
             String due = Integer.bitCount(n) == 1 ? "6:0:0" : "throws.UnsupportedOperationException";
             Due.same("make(2) of width " + n, Look.made(x, 2), due);
+        }
+    }
+
+    private static void oneBehindTheOther() {
+        int[][] maps = {{3, 2, 1, 0}, {1, 3, 0, 2}, {0, 1, 2, 3}, {2, 65, 64, 2}, {2, 3, 0, 1}, {64, 64, 64, 64},
+                {3, 0, 1, 2}};
+        BitShuffler x = new BitShuffler();
+        x.width(4);
+        for (int[] map : maps) {
+            Look.targets(x, map);
+            for (int kind = 0; kind < 4; kind++) {
+                String what = "kind " + kind + " of " + Look.map(x, 4) + " behind others";
+                Due.same(what, Look.made(x, kind), Look.made(Look.of(map), kind));
+            }
         }
     }
 

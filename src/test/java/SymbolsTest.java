@@ -6,6 +6,8 @@ public final class SymbolsTest {
         sets();
         ones();
         ops();
+        nothingStaysInT();
+        eachCallTracesAnew();
         checkTellsTheLowest();
         wrongBits();
         wide();
@@ -112,6 +114,38 @@ public final class SymbolsTest {
         traced(y, 4, "8 4 2 1");
         y.patch(1, 1, 5);
         traced(y, 4, "2 8 1 4");
+    }
+
+    private static void nothingStaysInT() {
+        BitShuffler x = Look.of(2, 1, 0);
+        x.make(3);
+        x.patch(0, 0, 6);
+        x.patch(1, 0, 7);
+        x.patch(3, 0, 1);
+        x.patch(4, 0, 6);
+        x.patch(6, 0, 0);
+        traced(x, 3, "2 5 0");
+        Due.same("run(4)", x.run(4), 2);
+    }
+
+    private static void eachCallTracesAnew() {
+        BitShuffler x = Look.of(65, 1, 1);
+        Due.same("constant(0) without steps", x.constant(0) ? 1 : 0, 0);
+        x.make(0);
+        Due.same("constant(0) behind make", x.constant(0) ? 1 : 0, 1);
+        x.patch(x.size() - 1, 0, 2);
+        Due.same("constant(0) behind patch", x.constant(0) ? 1 : 0, 0);
+        Due.same("constant(1) behind patch", x.constant(1) ? 1 : 0, 1);
+        x.patch(1, 0, 0);
+        Due.same("origins(1) behind patch", x.origins(1), 0);
+        x.width(3);
+        Due.same("constant(1) behind width", x.constant(1) ? 1 : 0, 0);
+        x.make(0);
+        Due.same("origins(1) behind make", x.origins(1), 2);
+        x.patch(1, 0, 5);
+        Due.same("check() behind patch", x.check(), 2);
+        x.width(3);
+        Due.same("check() behind width", x.check(), 1);
     }
 
     private static void checkTellsTheLowest() {
