@@ -29,6 +29,10 @@ final class Due {
         same(what, answer(call), "throws." + due.getSimpleName());
     }
 
+    static void taken(String what, Runnable call) {
+        same(what, answer(call), "0");
+    }
+
     static void refused(String what, Runnable call) {
         thrown(what, IllegalArgumentException.class, call);
     }

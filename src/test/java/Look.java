@@ -28,7 +28,8 @@ final class Look {
     /** The steps as op:amount:mask, with a blank between them. */
     static String steps(BitShuffler x) {
         StringBuilder text = new StringBuilder();
-        for (int i = 0; i < x.size(); i++) {
+        int size = x.size();
+        for (int i = 0; i < size; i++) {
             text.append(i == 0 ? "" : " ").append(x.step(i, false)).append(':').append(x.step(i, true))
                     .append(':').append(Long.toHexString(x.mask(i)));
         }

@@ -1,3 +1,5 @@
+import java.util.Arrays;
+
 /** Promise 5: the programs of the four kinds. */
 public final class MakeTest {
     public static void main(String[] args) {
@@ -54,16 +56,14 @@ public final class MakeTest {
 
     private static void swapsOfEveryPermutation() {
         for (int n = 1; n <= 8; n *= 2) {
-            BitShuffler x = new BitShuffler();
-            x.width(n);
-            permute(x, new int[n], 0, 0);
+            permute(new int[n], 0, 0);
         }
     }
 
-    private static void permute(BitShuffler x, int[] sources, int at, int used) {
+    private static void permute(int[] sources, int at, int used) {
         int n = sources.length;
         if (at == n) {
-            Look.targets(x, sources);
+            BitShuffler x = Look.of(sources);
             int size = x.make(2);
             String what = "swaps of " + Look.map(x, n);
             Due.same(what + ": check()", x.check(), 0);
@@ -77,7 +77,7 @@ public final class MakeTest {
         for (int s = 0; s < n; s++) {
             if ((used >> s & 1) == 0) {
                 sources[at] = s;
-                permute(x, sources, at + 1, used | 1 << s);
+                permute(sources, at + 1, used | 1 << s);
             }
         }
     }
@@ -137,7 +137,7 @@ public final class MakeTest {
         for (int[] map : maps) {
             Look.targets(x, map);
             for (int kind = 0; kind < 4; kind++) {
-                String what = "kind " + kind + " of " + Look.map(x, 4) + " behind others";
+                String what = "kind " + kind + " of " + Arrays.toString(map) + " behind others";
                 Due.same(what, Look.made(x, kind), Look.made(Look.of(map), kind));
             }
         }

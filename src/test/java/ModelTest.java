@@ -195,11 +195,11 @@ public final class ModelTest {
         for (int k = 0; k < n; k++) {
             codes *= n;
         }
-        BitShuffler x = new BitShuffler();
-        Model model = new Model();
-        x.width(n);
-        model.width(n);
         for (int code = 0; code < codes; code++) {
+            BitShuffler x = new BitShuffler();
+            Model model = new Model();
+            x.width(n);
+            model.width(n);
             int rest = code;
             for (int k = 0; k < n; k++) {
                 x.target(k, rest % n);

@@ -98,13 +98,16 @@ public final class StepsTest {
         for (int d = -4; d <= 4; d++) {
             takes(x, 0, d, 0);
         }
-        for (int d : new int[] {-5, 5, -6, 6, 64, -64, Integer.MIN_VALUE, Integer.MAX_VALUE}) {
-            refuses(x, 0, d, 0);
-        }
-        refuses(x, 0, 1, 1);
-        refuses(x, 0, 0, -1);
-        refuses(x, 0, 0, 32);
         Due.same("the others stay", Look.steps(x), "0:4:0 2:0:f 3:0:0 0:4:0 2:0:10 3:0:0");
+        BitShuffler y = new BitShuffler();
+        y.width(5);
+        y.make(0);
+        for (int d : new int[] {-5, 5, -6, 6, 64, -64, Integer.MIN_VALUE, Integer.MAX_VALUE}) {
+            refuses(y, 0, d, 0);
+        }
+        refuses(y, 0, 1, 1);
+        refuses(y, 0, 0, -1);
+        refuses(y, 0, 0, 32);
     }
 
     private static void patchRotate() {
@@ -120,12 +123,17 @@ public final class StepsTest {
         refuses(x, 0, 1, 32);
     }
 
-    private static void patchSwap() {
+    private static BitShuffler oneSwap() {
         BitShuffler x = Look.of(1, 0, 2, 3, 4, 5, 6, 7);
         x.make(2);
         Due.same("one swap", Look.steps(x), "5:1:1 6:0:0");
+        return x;
+    }
+
+    private static void patchSwap() {
         for (int d = 1; d < 8; d++) {
             for (int m = 0; m < 256; m++) {
+                BitShuffler x = oneSwap();
                 boolean fits = true;
                 for (int k = 0; k < 8; k++) {
                     if ((m >> k & 1) != 0 && (k + d >= 8 || (m >> (k + d) & 1) != 0)) {
@@ -139,6 +147,7 @@ public final class StepsTest {
                 }
             }
         }
+        BitShuffler x = oneSwap();
         for (int d : new int[] {0, 8, 9, -1, 64, 65, Integer.MIN_VALUE, Integer.MAX_VALUE}) {
             refuses(x, 0, d, 0);
             refuses(x, 0, d, 1);
@@ -148,19 +157,17 @@ public final class StepsTest {
     }
 
     private static void patchMasks() {
-        BitShuffler x = Look.of(65, 0, 1, 2, 3);
-        x.make(0);
-        Due.same("steps", Look.steps(x), "0:1:0 2:0:1e 3:0:0 4:0:1");
-        masksAt(x, 1);
-        masksAt(x, 3);
-        x.make(3);
-        Due.same("steps", Look.steps(x), "7:0:f 8:0:1e 3:0:0 4:0:1");
-        masksAt(x, 0);
-        masksAt(x, 1);
-        masksAt(x, 3);
+        masksAt(1, 0, "0:1:0 2:0:1e 3:0:0 4:0:1");
+        masksAt(3, 0, "0:1:0 2:0:1e 3:0:0 4:0:1");
+        masksAt(0, 3, "7:0:f 8:0:1e 3:0:0 4:0:1");
+        masksAt(1, 3, "7:0:f 8:0:1e 3:0:0 4:0:1");
+        masksAt(3, 3, "7:0:f 8:0:1e 3:0:0 4:0:1");
     }
 
-    private static void masksAt(BitShuffler x, int i) {
+    private static void masksAt(int i, int kind, String steps) {
+        BitShuffler x = Look.of(65, 0, 1, 2, 3);
+        x.make(kind);
+        Due.same("steps", Look.steps(x), steps);
         for (long m : new long[] {0, 1, 16, 31, 21}) {
             takes(x, i, 0, m);
         }
@@ -173,16 +180,14 @@ public final class StepsTest {
     }
 
     private static void patchWithoutFields() {
-        BitShuffler x = Look.of(1, 0);
-        x.make(0);
-        withoutFieldsAt(x, 2, 3);
-        x.make(2);
-        withoutFieldsAt(x, 1, 6);
-        x.make(3);
-        withoutFieldsAt(x, 2, 3);
+        withoutFieldsAt(0, 2, 3);
+        withoutFieldsAt(2, 1, 6);
+        withoutFieldsAt(3, 2, 3);
     }
 
-    private static void withoutFieldsAt(BitShuffler x, int i, int op) {
+    private static void withoutFieldsAt(int kind, int i, int op) {
+        BitShuffler x = Look.of(1, 0);
+        x.make(kind);
         Due.same("op", x.step(i, false), op);
         takes(x, i, 0, 0);
         refuses(x, i, 1, 0);
