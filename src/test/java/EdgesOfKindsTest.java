@@ -36,6 +36,7 @@ public final class EdgesOfKindsTest {
         thenTheSet();
         howManySteps();
         shorterBehindLonger();
+        behindOthersOfItsKind();
         noSuchKind();
         noMapForTheKind();
         anyMapForTheOtherKinds();
@@ -469,6 +470,20 @@ public final class EdgesOfKindsTest {
         Due.same("nothing", x.make(0), 0);
         Due.noIndex("step(0, false)", () -> x.step(0, false));
         Due.same("run(-1)", x.run(-1), 0);
+    }
+
+    /** Promise 5: "The program of a kind for the map" Of this map: none that was made before has left anything. */
+    private static void behindOthersOfItsKind() {
+        int[][] maps = {{3, 2, 1, 0, 7, 6, 5, 4}, {1, 3, 0, 2, 6, 7, 4, 5}, {7, 0, 6, 1, 5, 2, 4, 3}, {0, 1, 2, 3, 4, 5, 6, 7},
+                {4, 0, 5, 1, 6, 2, 7, 3}};
+        for (int kind = 0; kind < 4; kind++) {
+            BitShuffler x = new BitShuffler();
+            for (int[] map : maps) {
+                Look.targets(x, map);
+                Due.same("kind " + kind + " of " + Arrays.toString(map) + " behind others", Look.made(x, kind),
+                        Look.made(Look.of(map), kind));
+            }
+        }
     }
 
     /** Promise 5: "IllegalArgumentException: there is no such kind" */

@@ -4,7 +4,7 @@
  */
 public final class EdgesOfRunTest {
     private static final int[] WIDTHS = {1, 2, 3, 8, 31, 32, 33, 63, 64};
-    private static final long[] WORDS = {0, 1, -1L, 1L << 31, 1L << 32, Long.MIN_VALUE, 0x9669c33c5aa5f00fL};
+    private static final long[] WORDS = {0, 1, 2, -1L, -2L, 1L << 31, 1L << 32, Long.MIN_VALUE, 0x9669c33c5aa5f00fL};
 
     public static void main(String[] args) {
         shiftByTheLeastAndTheGreatest();
@@ -24,6 +24,7 @@ public final class EdgesOfRunTest {
         moveAlone();
         gatherOfNothingAndOfAll();
         gatherOfFewerThanTheWidth();
+        gatherBehindAnother();
         gatherAtTheHighestBits();
         scatterToNothingAndToAll();
         scatterOfMoreThanThereAre();
@@ -382,6 +383,35 @@ public final class EdgesOfRunTest {
         Due.same("seven of eight: run(-1)", x.run(-1), 0x7f);
         Due.same("seven of eight: origins(6)", x.origins(6), 128);
         Due.same("seven of eight: origins(7)", x.origins(7), 0);
+    }
+
+    /** "or 0 if m has not so many." Also where an earlier GATHER or SCATTER has left a bit in T. */
+    private static void gatherBehindAnother() {
+        BitShuffler x = Look.of(2, 1, 64);
+        x.make(3);
+        Due.same("steps", Look.steps(x), "7:0:4 8:0:1 3:0:0 7:0:2 8:0:2 3:0:0");
+        x.patch(0, 0, 7);
+        x.patch(1, 0, 7);
+        x.patch(4, 0, 7);
+        Due.same("run(2)", x.run(2), 3);
+        Due.same("origins(0)", x.origins(0), 3);
+        Due.same("origins(1)", x.origins(1), 2);
+        Due.same("origins(2)", x.origins(2), 4);
+        x.patch(1, 0, 0);
+        Due.same("the second one alone: run(-1)", x.run(-1), 1);
+        Due.same("the second one alone: origins(0)", x.origins(0), 2);
+        x.patch(1, 0, 6);
+        x.patch(3, 0, 0);
+        Due.same("the first one alone: run(-1)", x.run(-1), 6);
+        Due.same("the first one alone: origins(0)", x.origins(0), 0);
+        Due.same("the first one alone: origins(2)", x.origins(2), 2);
+        BitShuffler y = Look.of(2, 1, 64);
+        y.make(3);
+        y.patch(0, 0, 7);
+        y.patch(1, 0, 4);
+        y.patch(4, 0, 7);
+        Due.same("what stood in T is in no set", y.origins(2), 1);
+        Due.same("nor in a word", y.run(5), 4);
     }
 
     /** "GATHER: bit k of T is the bit of A at the k-th lowest bit of m (from 0)" The bits 31, 32 and 63. */
