@@ -408,10 +408,12 @@ public final class EdgesOfRunTest {
         BitShuffler y = Look.of(2, 1, 64);
         y.make(3);
         y.patch(0, 0, 7);
-        y.patch(1, 0, 4);
-        y.patch(4, 0, 7);
-        Due.same("what stood in T is in no set", y.origins(2), 1);
-        Due.same("nor in a word", y.run(5), 4);
+        y.patch(1, 0, 2);
+        y.patch(4, 0, 6);
+        // T's bit 1 is bit 0 of the word; the second GATHER makes it 0, so that nothing goes to place 2
+        Due.same("both are at place 1", y.origins(1), 3);
+        Due.same("what stood in T is in no set", y.origins(2), 0);
+        Due.same("nor in a word", y.run(-1), 2);
     }
 
     /** "GATHER: bit k of T is the bit of A at the k-th lowest bit of m (from 0)" The bits 31, 32 and 63. */
