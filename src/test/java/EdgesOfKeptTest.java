@@ -77,6 +77,7 @@ public final class EdgesOfKeptTest {
         x.width(4);
         Due.taken("join(0)", () -> x.join(0));
         Due.same("the first", Look.map(x, 4), "0 1 2 65");
+        Due.same("all eight stay", Held.kept(x, 4), Held.kept(full(), 4));
     }
 
     /** Eight kept maps of the width 4, the last of them 3 2 1 0, and a program. */

@@ -334,7 +334,10 @@ public final class EdgesOfSymbolsTest {
         Due.same("run(0)", x.run(0), 3);
     }
 
-    /** Promise 14: "Whether a bit of the result is or with 1 by symbols." Not of the map, nor of what is the same for all words. */
+    /**
+     * Promise 14: "Whether a bit of the result is or with 1 by symbols." Not of the map, nor of what
+     * is the same for all words.
+     */
     private static void constantIsNoAnswerOfWords() {
         BitShuffler x = Look.of(64, 65);
         Due.yes("ONE in the map alone", !x.constant(1));
