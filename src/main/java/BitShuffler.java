@@ -29,6 +29,7 @@ public final class BitShuffler {
     private static final int GATHERS = 3;
 
     private static final int WIDEST_SEARCH = 4;
+    private static final int MASKS_OF_SEARCH = 1 << WIDEST_SEARCH;
     /** One swap can put one place right, and when all others are right the last one is too. */
     private static final int MOST_SWAPS_NEEDED = WIDEST_SEARCH - 1;
     /** How many bits of a long hold the number of one place in the search. */
@@ -36,6 +37,7 @@ public final class BitShuffler {
     private static final long FULL_FIELD = 15L;
 
     private final BitMap map;
+    /** What the map was, as long as a new one is made of it. */
     private final BitMap former;
     private final BitMap[] kept;
     private int keptCount;
@@ -244,7 +246,7 @@ public final class BitShuffler {
             return false;
         }
         for (int d = 1; d < bits; d++) {
-            for (long m = 1; m <= allBits(bits); m++) {
+            for (int m = 1; m < MASKS_OF_SEARCH; m++) {
                 if (fitsSwap(d, m, bits)
                         && canArrange(exchanged(places, FIELD * d, fieldsOf(m)), wanted, bits, swapsLeft - 1)) {
                     return true;

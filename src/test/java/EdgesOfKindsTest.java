@@ -255,7 +255,10 @@ public final class EdgesOfKindsTest {
         made("5:2:11 5:1:11 5:2:22 6:0:0", 2, 1, 3, 0, 2, 5, 7, 4, 6);
     }
 
-    /** "as long as there is a place r below h undecided, for the least one: r comes through the lower half" */
+    /**
+     * "It is decided which places i of the block come THROUGH the lower half: as long as there is a
+     * place r below h undecided, for the least one: r comes through the lower half"
+     */
     private static void leastPlaceUndecided() {
         // place 0 comes through the lower half though its source is an upper one: the first swap, not the last
         made("5:2:1 6:0:0", 2, 2, 1, 0, 3);
@@ -323,7 +326,10 @@ public final class EdgesOfKindsTest {
         made("5:2:30 6:0:0", 2, 0, 1, 2, 3, 6, 7, 4, 5);
     }
 
-    /** "The masks: a BLOCK of n places, first the whole word, has wanted sources among its places" By the model. */
+    /**
+     * "The masks: a BLOCK of n places, first the whole word, has wanted sources among its places (as
+     * places in it)." By the model.
+     */
     private static void blocksAsTheDocumentHasThem() {
         for (int n = 1; n <= 4; n *= 2) {
             permute(new int[n], 0, 0);
